@@ -3,7 +3,8 @@ import java.lang.reflect.Method;
 /**
  * Runs calls that are written as text, one a line, and counts the wrong answers:
  * "new" makes a new object, "size 0 1 = 5" calls size(0, 1), for which 5 is due.
- * A line without "=" has to answer true. What follows a "#" is not read.
+ * A line without "=" has to answer true. "arrows 0 011 102" stands for the lines "arrow 0 0 1 1"
+ * and "arrow 0 1 0 2". What follows a "#" is not read.
  */
 final class Script {
     private final String name;
@@ -22,9 +23,18 @@ final class Script {
             String text = line.replaceAll("#.*", "").trim();
             if (text.equals("new")) {
                 object = new AutomataSuite();
+            } else if (text.startsWith("arrows ")) {
+                runArrows(section, text.split(" +"));
             } else if (!text.isEmpty()) {
                 runLine(section, text);
             }
+        }
+    }
+
+    private void runArrows(String section, String[] words) {
+        for (int i = 2; i < words.length; i++) {
+            String digits = String.join(" ", words[i].split(""));
+            runLine(section, "arrow " + words[1] + " " + digits);
         }
     }
 
