@@ -463,6 +463,14 @@ public final class PromisesTest {
             SCRIPT.run("11 covers, apart after " + pair.letters + " letters", pair.lines
                     + "covers 0 = " + pair.zeroCovers + "\ncovers 1 = " + pair.oneCovers + "\n");
         }
+        SCRIPT.run("11 covers, only after 893 pairs of sets have been seen", """
+                arrows 0 002 012 110 204 214 300 311 402 403 413
+                ends 0 31 31
+                arrows 1 001 013 102 111 203 214 300 304 312 400 410
+                ends 1 4 16
+                covers 0 = false
+                covers 1 = false
+                """);
         SCRIPT.run("11 covers out of range", """
                 covers 2 = false
                 covers -1 = false
