@@ -1,27 +1,6 @@
-/** Every promise of the document in turn: ordinary inputs, edges and wrong inputs. */
+/** Every promise of the document in turn, with ordinary inputs; its edges are in BoundariesTest. */
 public final class PromisesTest {
     private static final Script SCRIPT = new Script("PromisesTest");
-
-    // The word's third letter from the end is a 1: four states, eight in a plain machine.
-    private static final String THIRD_FROM_END = """
-            arrows 0 000 010 011 102 112 203 213
-            ends 0 1 8
-            """;
-
-    // The number of letters 0 can be divided by three; and by five. Both machines are plain.
-    private static final String THREES_AND_FIVES = """
-            arrows 0 001 102 200 010 111 212
-            ends 0 1 1
-            arrows 1 001 102 203 304 400 010 111 212 313 414
-            ends 1 1 1
-            """;
-
-    // No plain machine for five states can be larger (Meyer and Fischer).
-    private static final String THIRTY_TWO = """
-            arrows 0 001 102 203 304 400
-            arrows 0 111 110 212 210 313 310 414 410
-            ends 0 1 1
-            """;
 
     private static void newObject() {
         for (int m = 0; m < 2; m++) {
@@ -42,7 +21,6 @@ public final class PromisesTest {
                     live M = 31
                     endless M = false
                     """.replace("M", "" + m));
-            SCRIPT.run("1 no arrow is there at first", allArrows("cut " + m, "false"));
         }
         SCRIPT.run("1 both alike", """
                 equal 0
@@ -61,20 +39,6 @@ public final class PromisesTest {
                 """);
     }
 
-    /** A line for every arrow that a machine can have. */
-    private static String allArrows(String call, String due) {
-        StringBuilder lines = new StringBuilder();
-        for (int s = 0; s < 5; s++) {
-            for (int letter = 0; letter < 2; letter++) {
-                for (int t = 0; t < 5; t++) {
-                    lines.append(call).append(' ').append(s).append(' ').append(letter)
-                            .append(' ').append(t).append(" = ").append(due).append('\n');
-                }
-            }
-        }
-        return lines.toString();
-    }
-
     private static void arrow() {
         SCRIPT.run("2 arrow", """
                 arrow 0 0 0 1
@@ -90,23 +54,6 @@ public final class PromisesTest {
                 after 0 3 = 2
                 after 0 4 = 1
                 """);
-        SCRIPT.run("2 every arrow, once", allArrows("arrow 0", "true")
-                + allArrows("arrow 0", "false") + allArrows("cut 1", "false"));
-        SCRIPT.run("2 arrow out of range", """
-                arrow -1 0 0 0 = false
-                arrow 2 0 0 0 = false
-                arrow 0 -1 0 0 = false
-                arrow 0 5 0 0 = false
-                arrow 0 0 -1 0 = false
-                arrow 0 0 2 0 = false
-                arrow 0 0 0 -1 = false
-                arrow 0 0 0 5 = false
-                arrow MIN 0 0 0 = false
-                arrow 0 MAX 0 0 = false
-                arrow 0 0 MIN 0 = false
-                arrow 0 0 0 32 = false   # not state 0 by a shift that goes round
-                arrow MAX MAX MAX MAX = false
-                """ + allArrows("cut 0", "false") + allArrows("cut 1", "false"));
         SCRIPT.run("2 answers follow at once", """
                 ends 0 1 2
                 size 0 0 = 1
@@ -134,8 +81,6 @@ public final class PromisesTest {
                 arrow 0 0 0 1            # it can come back
                 after 0 2 = 6
                 """);
-        SCRIPT.run("3 every arrow", allArrows("arrow 1", "true") + allArrows("cut 0", "false")
-                + allArrows("cut 1", "true") + allArrows("cut 1", "false"));
         SCRIPT.run("3 one state of many keeps the way", """
                 arrows 0 002 102
                 ends 0 3 4
@@ -147,21 +92,6 @@ public final class PromisesTest {
                 after 0 2 = 0
                 live 0 = 0
                 """);
-        SCRIPT.run("3 cut out of range", allArrows("arrow 0", "true")
-                + allArrows("arrow 1", "true") + """
-                cut -1 0 0 0 = false
-                cut 2 0 0 0 = false
-                cut 0 -1 0 0 = false
-                cut 0 5 0 0 = false
-                cut 0 0 -1 0 = false
-                cut 0 0 2 0 = false
-                cut 0 0 0 -1 = false
-                cut 0 0 0 5 = false
-                cut MAX 0 0 0 = false
-                cut 0 MIN 0 0 = false
-                cut 0 0 MAX 0 = false
-                cut 0 0 0 32 = false
-                """ + allArrows("arrow 0", "false") + allArrows("arrow 1", "false"));
     }
 
     private static void ends() {
@@ -184,24 +114,6 @@ public final class PromisesTest {
                 ends 1 16 16
                 after 1 1 = 16
                 after 0 1 = 31
-                """);
-        SCRIPT.run("4 ends out of range", """
-                ends 0 5 6
-                ends 1 9 3
-                ends 2 1 1 = false
-                ends -1 1 1 = false
-                ends MAX 1 1 = false
-                ends 0 32 0 = false
-                ends 0 -1 0 = false
-                ends 0 0 32 = false
-                ends 0 0 -1 = false
-                ends 0 MIN 0 = false
-                ends 1 0 MAX = false
-                ends 1 MAX MIN = false
-                after 0 1 = 5
-                after 1 1 = 9
-                live 0 = 4               # the second set has stayed too
-                live 1 = 1
                 """);
     }
 
@@ -238,16 +150,6 @@ public final class PromisesTest {
                 turn 0
                 after 0 2 = 2
                 """);
-        SCRIPT.run("5 turn out of range", """
-                arrows 0 001
-                ends 0 1 2
-                turn 2 = false
-                turn -1 = false
-                turn MIN = false
-                turn MAX = false
-                accepts 0 2 = true
-                after 0 1 = 1
-                """);
         SCRIPT.run("5 turn an empty machine", """
                 turn 0
                 turn 1
@@ -256,7 +158,7 @@ public final class PromisesTest {
     }
 
     private static void accepts() {
-        SCRIPT.run("6 accepts", THIRD_FROM_END + """
+        SCRIPT.run("6 accepts", Machines.THIRD_FROM_END + """
                 accepts 0 1 = false
                 accepts 0 7 = false      # two letters
                 accepts 0 12 = true      # 1 0 0
@@ -275,24 +177,10 @@ public final class PromisesTest {
                 accepts 0 4 = false
                 accepts 0 2 = false
                 """);
-        SCRIPT.run("6 accepts out of range", """
-                arrows 0 000 010
-                ends 0 1 1               # every word
-                accepts 0 1 = true
-                accepts 0 2047 = true
-                accepts 0 0 = false
-                accepts 0 2048 = false
-                accepts 0 -1 = false
-                accepts 0 MIN = false
-                accepts 0 MAX = false
-                accepts 2 1 = false
-                accepts -1 1 = false
-                accepts MAX MAX = false
-                """);
     }
 
     private static void after() {
-        SCRIPT.run("7 after", THIRD_FROM_END + """
+        SCRIPT.run("7 after", Machines.THIRD_FROM_END + """
                 after 0 1 = 1
                 after 0 2 = 1
                 after 0 3 = 3
@@ -312,17 +200,6 @@ public final class PromisesTest {
                 after 1 2 = 24
                 after 1 3 = 4
                 after 1 4 = 0
-                """);
-        SCRIPT.run("7 after out of range", """
-                ends 0 31 31
-                after 0 0 = -1
-                after 0 2048 = -1
-                after 0 -1 = -1
-                after 0 MIN = -1
-                after 0 MAX = -1
-                after 2 1 = -1
-                after -1 1 = -1
-                after MIN 1 = -1
                 """);
     }
 
@@ -344,44 +221,26 @@ public final class PromisesTest {
         sizeIs("no way to an end", "arrows 0 000 001 110\nends 0 1 4\n", 0, 1);
         sizeIs("every word but the empty one", "arrows 0 001 011 101 111\nends 0 1 2\n", 0, 2);
         sizeIs("the one word 0 0 0 0", "arrows 0 001 102 203 304\nends 0 1 16\n", 0, 6);
-        sizeIs("third from the end", THIRD_FROM_END, 0, 8);
-        sizeIs("third from the start", THIRD_FROM_END + "turn 0\n", 0, 5);
+        sizeIs("third from the end", Machines.THIRD_FROM_END, 0, 8);
+        sizeIs("third from the start", Machines.THIRD_FROM_END + "turn 0\n", 0, 5);
         sizeIs("fourth from the end",
                 "arrows 1 000 010 011 102 112 203 213 304 314\nends 1 1 16\n", 1, 16);
-        sizeIs("threes", THREES_AND_FIVES, 0, 3);
-        sizeIs("fives", THREES_AND_FIVES, 1, 5);
+        sizeIs("threes", Machines.THREES_AND_FIVES, 0, 3);
+        sizeIs("fives", Machines.THREES_AND_FIVES, 1, 5);
         sizeIs("twos or threes of letters 0",
                 "arrows 0 001 100 203 304 402 010 111 212 313 414\nends 0 5 5\n", 0, 6);
-        sizeIs("the largest", THIRTY_TWO, 0, 32);
-        sizeIs("the largest, as machine 1", THIRTY_TWO.replace("s 0", "s 1"), 1, 32);
-        SCRIPT.run("8 size out of range", THIRTY_TWO + """
-                size -1 0 = -1
-                size 4 0 = -1
-                size MIN 0 = -1
-                size MAX 1 = -1
-                size 0 2 = -1
-                size 3 -1 = -1
-                size 0 MIN = -1
-                size 4 2 = -1
-                """);
+        sizeIs("the largest", Machines.THIRTY_TWO, 0, 32);
+        sizeIs("the largest, as machine 1", Machines.asMachineOne(Machines.THIRTY_TWO), 1, 32);
     }
 
     private static void agree() {
-        for (int engine = -1; engine <= 4; engine++) {
-            for (int other = -1; other <= 4; other++) {
-                boolean due = engine >= 0 && engine < 4 && other >= 0 && other < 4;
-                String line = "agree " + engine + " " + other + " = " + due + "\n";
-                SCRIPT.run("9 agree, new", line);
-                SCRIPT.run("9 agree", THREES_AND_FIVES + line);
-                SCRIPT.run("9 agree, largest", THIRTY_TWO + line);
+        for (int engine = 0; engine < 4; engine++) {
+            for (int other = 0; other < 4; other++) {
+                String line = "agree " + engine + " " + other + " = true\n";
+                SCRIPT.run("9 agree", Machines.THREES_AND_FIVES + line);
+                SCRIPT.run("9 agree, turned", Machines.THIRD_FROM_END + "turn 0\n" + line);
             }
         }
-        SCRIPT.run("9 agree out of range", """
-                agree MIN 0 = false
-                agree 0 MAX = false
-                agree 4 4 = false
-                agree -1 -1 = false
-                """);
     }
 
     private static void equalIs(String section, String lines, boolean due) {
@@ -396,39 +255,33 @@ public final class PromisesTest {
         equalIs("new", "", true);
         equalIs("the empty word alone", "ends 0 1 1\n", false);
         equalIs("the empty word alone, the other", "ends 1 16 16\n", false);
-        equalIs("threes and fives", THREES_AND_FIVES, false);
+        equalIs("threes and fives", Machines.THREES_AND_FIVES, false);
         equalIs("other states, same words", """
                 arrows 0 000 010
                 ends 0 1 1
                 arrows 1 203 214 303 313 404 414
                 ends 1 4 28
                 """, true);
-        equalIs("a way that leads nowhere", THIRD_FROM_END + """
+        equalIs("a way that leads nowhere", Machines.THIRD_FROM_END + """
                 arrows 1 000 010 011 102 112 203 213 004 414 304
                 ends 1 1 8
                 """, true);
         equalIs("backwards, the same for a word and its turned one",
-                THREES_AND_FIVES + "cut 1 2 0 3\narrow 1 2 0 0\nturn 1\n", true);
+                Machines.THREES_AND_FIVES + "cut 1 2 0 3\narrow 1 2 0 0\nturn 1\n", true);
         equalIs("just one long word more", """
                 arrows 0 001 102 203 304
                 ends 0 1 16
                 """, false);
-        equalIs("largest, twice", THIRTY_TWO + THIRTY_TWO.replace("s 0", "s 1"), true);
-        equalIs("largest, not quite twice",
-                THIRTY_TWO + THIRTY_TWO.replace("s 0", "s 1") + "cut 1 4 1 0\n", false);
+        String largestTwice = Machines.THIRTY_TWO + Machines.asMachineOne(Machines.THIRTY_TWO);
+        equalIs("largest, twice", largestTwice, true);
+        equalIs("largest, not quite twice", largestTwice + "cut 1 4 1 0\n", false);
         for (LongWords pair : LongWords.values()) {
             equalIs("apart after " + pair.letters + " letters", pair.lines, false);
         }
-        SCRIPT.run("10 equal out of range", """
-                equal -1 = false
-                equal 3 = false
-                equal MIN = false
-                equal MAX = false
-                """);
     }
 
     private static void covers() {
-        SCRIPT.run("11 covers", THREES_AND_FIVES + """
+        SCRIPT.run("11 covers", Machines.THREES_AND_FIVES + """
                 covers 0 = false
                 covers 1 = false
                 ends 0 1 7               # every word
@@ -459,10 +312,6 @@ public final class PromisesTest {
                 covers 0 = false
                 covers 1 = false
                 """);
-        for (LongWords pair : LongWords.values()) {
-            SCRIPT.run("11 covers, apart after " + pair.letters + " letters", pair.lines
-                    + "covers 0 = " + pair.zeroCovers + "\ncovers 1 = " + pair.oneCovers + "\n");
-        }
         SCRIPT.run("11 covers, only after 893 pairs of sets have been seen", """
                 arrows 0 002 012 110 204 214 300 311 402 403 413
                 ends 0 31 31
@@ -471,16 +320,10 @@ public final class PromisesTest {
                 covers 0 = false
                 covers 1 = false
                 """);
-        SCRIPT.run("11 covers out of range", """
-                covers 2 = false
-                covers -1 = false
-                covers MIN = false
-                covers MAX = false
-                """);
     }
 
     private static void count() {
-        SCRIPT.run("12 count", THIRD_FROM_END + """
+        SCRIPT.run("12 count", Machines.THIRD_FROM_END + """
                 count 0 0 = 0
                 count 0 1 = 0
                 count 0 2 = 0
@@ -494,31 +337,21 @@ public final class PromisesTest {
                 count 0 12 = 4096
                 """);
         SCRIPT.run("12 a word counts once, however many its ways are",
-                allArrows("arrow 1", "true") + """
+                Machines.allArrows("arrow 1", "true") + """
                 ends 1 31 31
                 count 1 0 = 1
                 count 1 5 = 32
                 count 1 12 = 4096
                 """);
-        SCRIPT.run("12 count, threes", THREES_AND_FIVES + """
+        SCRIPT.run("12 count, threes", Machines.THREES_AND_FIVES + """
                 count 0 2 = 1            # 1 1
                 count 0 3 = 2            # 0 0 0 and 1 1 1
                 count 0 4 = 5            # 1 1 1 1, and 0 0 0 with a 1 in one of four places
                 """);
-        SCRIPT.run("12 count out of range", """
-                ends 0 1 1
-                count 0 -1 = -1
-                count 0 13 = -1
-                count 0 MIN = -1
-                count 0 MAX = -1
-                count 2 0 = -1
-                count -1 0 = -1
-                count MAX 0 = -1
-                """);
     }
 
     private static void least() {
-        SCRIPT.run("13 least", THIRD_FROM_END + """
+        SCRIPT.run("13 least", Machines.THIRD_FROM_END + """
                 least 0 = 12
                 least 1 = -2
                 ends 0 1 9
@@ -541,17 +374,10 @@ public final class PromisesTest {
                 cut 0 3 1 4
                 least 0 = -2
                 """);
-        SCRIPT.run("13 least out of range", """
-                ends 0 1 1
-                least 2 = -1
-                least -1 = -1
-                least MIN = -1
-                least MAX = -1
-                """);
     }
 
     private static void difference() {
-        SCRIPT.run("14 difference", THREES_AND_FIVES + """
+        SCRIPT.run("14 difference", Machines.THREES_AND_FIVES + """
                 difference = 8           # 0 0 0
                 ends 1 1 0
                 difference = 1           # the empty word
@@ -569,16 +395,10 @@ public final class PromisesTest {
                 cut 1 1 0 2
                 difference = 3
                 """);
-        SCRIPT.run("14 difference, alike", THIRTY_TWO + THIRTY_TWO.replace("s 0", "s 1")
-                + "difference = -2\n");
-        for (LongWords pair : LongWords.values()) {
-            SCRIPT.run("14 difference of " + pair.letters + " letters",
-                    pair.lines + "difference = " + pair.difference + "\n");
-        }
     }
 
     private static void rank() {
-        SCRIPT.run("15 rank", THIRD_FROM_END + """
+        SCRIPT.run("15 rank", Machines.THIRD_FROM_END + """
                 rank 0 1 = 0
                 rank 0 12 = 0            # 12 itself is not below 12
                 rank 0 13 = 1
@@ -597,21 +417,10 @@ public final class PromisesTest {
                 rank 1 1000 = 999
                 rank 1 2047 = 2046
                 """);
-        SCRIPT.run("15 rank out of range", """
-                ends 0 1 1
-                rank 0 0 = -1
-                rank 0 -1 = -1
-                rank 0 2048 = -1
-                rank 0 MIN = -1
-                rank 0 MAX = -1
-                rank 2 1 = -1
-                rank -1 1 = -1
-                rank MAX 1 = -1
-                """);
     }
 
     private static void endless() {
-        SCRIPT.run("16 endless", THIRD_FROM_END + """
+        SCRIPT.run("16 endless", Machines.THIRD_FROM_END + """
                 endless 0 = true
                 endless 1 = false
                 cut 0 0 0 0
@@ -643,19 +452,10 @@ public final class PromisesTest {
                 arrow 0 4 0 0
                 endless 0 = true
                 """);
-        SCRIPT.run("16 endless out of range", """
-                arrows 0 000
-                ends 0 1 1
-                endless 0 = true
-                endless 2 = false
-                endless -1 = false
-                endless MIN = false
-                endless MAX = false
-                """);
     }
 
     private static void live() {
-        SCRIPT.run("17 live", THIRD_FROM_END + """
+        SCRIPT.run("17 live", Machines.THIRD_FROM_END + """
                 live 0 = 15
                 live 1 = 0
                 ends 0 2 8
@@ -675,13 +475,6 @@ public final class PromisesTest {
                 live 1 = 31
                 cut 1 2 0 3
                 live 1 = 0
-                """);
-        SCRIPT.run("17 live out of range", """
-                ends 0 31 31
-                live 2 = -1
-                live -1 = -1
-                live MIN = -1
-                live MAX = -1
                 """);
     }
 

@@ -7,8 +7,11 @@ import java.lang.reflect.Method;
  * and "arrow 0 1 0 2". What follows a "#" is not read.
  */
 final class Script {
+    private static final int MOST_CALLS = 512;
+
     private final String name;
     private AutomataSuite object = new AutomataSuite();
+    private int callsOnObject = 0;
     private int calls = 0;
     private int wrong = 0;
 
@@ -18,17 +21,35 @@ final class Script {
 
     /** Runs the lines on a new object. */
     void run(String section, String lines) {
-        object = new AutomataSuite();
+        renew();
         for (String line : lines.split("\n")) {
             String text = line.replaceAll("#.*", "").trim();
             if (text.equals("new")) {
-                object = new AutomataSuite();
+                renew();
             } else if (text.startsWith("arrows ")) {
                 runArrows(section, text.split(" +"));
             } else if (!text.isEmpty()) {
                 runLine(section, text);
             }
         }
+    }
+
+    /** Runs the lines, which have to be so many calls, on a new object. */
+    void run(String section, String lines, int callsDue) {
+        run(section, lines);
+        if (callsOnObject != callsDue) {
+            fault(section + ": made " + callsOnObject + " calls, not " + callsDue);
+        }
+    }
+
+    private void renew() {
+        object = new AutomataSuite();
+        callsOnObject = 0;
+    }
+
+    private void fault(String what) {
+        wrong++;
+        System.out.println(what);
     }
 
     private void runArrows(String section, String[] words) {
@@ -43,9 +64,13 @@ final class Script {
         String due = sides.length > 1 ? sides[1].trim() : "true";
         String got = answer(sides[0].trim().split(" +"));
         calls++;
+        callsOnObject++;
         if (!got.equals(due)) {
-            wrong++;
-            System.out.println(section + ": " + text + ": answered " + got + ", due is " + due);
+            fault(section + ": " + text + ": answered " + got + ", due is " + due);
+        }
+        // Beyond them the document promises nothing, so a test there would ask too much.
+        if (callsOnObject > MOST_CALLS) {
+            fault(section + ": " + text + ": more than " + MOST_CALLS + " calls on an object");
         }
     }
 
